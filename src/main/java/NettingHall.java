@@ -33,7 +33,8 @@ public final class NettingHall {
         mustExist(isMember(member));
         mustFit(isBetween(amount, 1, MOST_AMOUNT));
         mustBePossible(!hall.clearing.hasFailed(member));
-        return run(new Call(Call.DEPOSIT, member, amount, 0));
+        Call call = new Call(Call.DEPOSIT, member, amount, 0);
+        return done(call, hall.perform(call));
     }
 
     public long fund(int member, int amount)
@@ -41,7 +42,8 @@ public final class NettingHall {
         mustExist(isMemberOrHouse(member));
         mustFit(isBetween(amount, 1, MOST_AMOUNT));
         mustBePossible(!hall.clearing.hasFailed(member));
-        return run(new Call(Call.FUND, member, amount, 0));
+        Call call = new Call(Call.FUND, member, amount, 0);
+        return done(call, hall.perform(call));
     }
 
     // ---- orders
@@ -52,7 +54,8 @@ public final class NettingHall {
         mustFit(isOrder(side, price, quantity) && isBetween(shown, 0, quantity) && isBetween(kind, DAY, REST));
         mustBePossible(!hall.clearing.hasFailed(member) && hall.books.hasRoom());
         mustBePossible(kind == DAY || kind == REST || hall.clearing.isContinuous(instrument));
-        return (int) run(new Call(Call.ORDER, member, instrument, side).with(price, quantity, shown, kind));
+        Call call = new Call(Call.ORDER, member, instrument, side).with(price, quantity, shown, kind);
+        return (int) done(call, hall.perform(call));
     }
 
     public int stop(int member, int instrument, int side, int price, int quantity, int wake)
@@ -60,7 +63,8 @@ public final class NettingHall {
         mustExist(isMember(member) && isInstrument(instrument));
         mustFit(isOrder(side, price, quantity) && isPrice(wake));
         mustBePossible(!hall.clearing.hasFailed(member) && hall.books.hasRoom());
-        return (int) run(new Call(Call.STOP, member, instrument, side).with(price, quantity, wake, 0));
+        Call call = new Call(Call.STOP, member, instrument, side).with(price, quantity, wake, 0);
+        return (int) done(call, hall.perform(call));
     }
 
     public void tie(int order, int other)
@@ -72,7 +76,8 @@ public final class NettingHall {
         }
         mustFit(order != other && one.member == two.member);
         mustBePossible(one.canBeTied() && two.canBeTied());
-        run(new Call(Call.TIE, order, other, 0));
+        Call call = new Call(Call.TIE, order, other, 0);
+        done(call, hall.perform(call));
     }
 
     public int cancel(int order) throws IndexOutOfBoundsException, IllegalStateException {
@@ -81,7 +86,8 @@ public final class NettingHall {
             throw new IndexOutOfBoundsException("no such order");
         }
         mustBePossible(!gone.isGone());
-        return (int) run(new Call(Call.CANCEL, order, 0, 0));
+        Call call = new Call(Call.CANCEL, order, 0, 0);
+        return (int) done(call, hall.perform(call));
     }
 
     public int spread(int member, int first, int second, int quantity, int price)
@@ -91,7 +97,8 @@ public final class NettingHall {
         mustFit(isBetween(price, 1 - MOST_PRICE, MOST_PRICE - 1));
         mustBePossible(!hall.clearing.hasFailed(member));
         mustBePossible(hall.clearing.isContinuous(first) && hall.clearing.isContinuous(second));
-        return (int) run(new Call(Call.SPREAD, member, first, second).with(quantity, price, 0, 0));
+        Call call = new Call(Call.SPREAD, member, first, second).with(quantity, price, 0, 0);
+        return (int) done(call, hall.perform(call));
     }
 
     public int standing(int order) throws IndexOutOfBoundsException {
@@ -120,13 +127,15 @@ public final class NettingHall {
     public int band(int instrument, int percent) throws IndexOutOfBoundsException, IllegalArgumentException {
         mustExist(isInstrument(instrument));
         mustFit(isBetween(percent, 0, 50));
-        return (int) run(new Call(Call.BAND, instrument, percent, 0));
+        Call call = new Call(Call.BAND, instrument, percent, 0);
+        return (int) done(call, hall.perform(call));
     }
 
     public void halt(int instrument) throws IndexOutOfBoundsException, IllegalStateException {
         mustExist(isInstrument(instrument));
         mustBePossible(hall.clearing.isContinuous(instrument));
-        run(new Call(Call.HALT, instrument, 0, 0));
+        Call call = new Call(Call.HALT, instrument, 0, 0);
+        done(call, hall.perform(call));
     }
 
     public long indicated(int instrument) throws IndexOutOfBoundsException {
@@ -142,7 +151,8 @@ public final class NettingHall {
     public int open(int instrument) throws IndexOutOfBoundsException, IllegalStateException {
         mustExist(isInstrument(instrument));
         mustBePossible(!hall.clearing.isContinuous(instrument));
-        return (int) run(new Call(Call.OPEN, instrument, 0, 0));
+        Call call = new Call(Call.OPEN, instrument, 0, 0);
+        return (int) done(call, hall.perform(call));
     }
 
     public int split(int instrument, int by)
@@ -153,13 +163,15 @@ public final class NettingHall {
         }
         mustFit(isBetween(by, 2, 5));
         mustBePossible(paper.splits < MOST_SPLITS);
-        return (int) run(new Call(Call.SPLIT, instrument, by, 0));
+        Call call = new Call(Call.SPLIT, instrument, by, 0);
+        return (int) done(call, hall.perform(call));
     }
 
     public long dividend(int instrument, int amount) throws IndexOutOfBoundsException, IllegalArgumentException {
         mustExist(isInstrument(instrument));
         mustFit(isBetween(amount, 1, 1000));
-        return run(new Call(Call.DIVIDEND, instrument, amount, 0));
+        Call call = new Call(Call.DIVIDEND, instrument, amount, 0);
+        return done(call, hall.perform(call));
     }
 
     public int instrument(int instrument) throws IndexOutOfBoundsException {
@@ -191,7 +203,8 @@ public final class NettingHall {
             throw new IndexOutOfBoundsException("no such trade");
         }
         mustBePossible(hall.clearing.canBeBroken(asked));
-        run(new Call(Call.BREAK, trade, 0, 0));
+        Call call = new Call(Call.BREAK, trade, 0, 0);
+        done(call, hall.perform(call));
     }
 
     public long position(int member, int instrument) throws IndexOutOfBoundsException {
@@ -216,7 +229,8 @@ public final class NettingHall {
     public int scenario(int first, int second, int third) throws IllegalArgumentException, IllegalStateException {
         mustFit(isPercent(first) && isPercent(second) && isPercent(third));
         mustBePossible(hall.clearing.scenarioCount < MOST_SCENARIOS);
-        return (int) run(new Call(Call.SCENARIO, first, second, third));
+        Call call = new Call(Call.SCENARIO, first, second, third);
+        return (int) done(call, hall.perform(call));
     }
 
     public long margin(int member) throws IndexOutOfBoundsException {
@@ -245,7 +259,8 @@ public final class NettingHall {
 
     public int tick(int ticks) throws IllegalArgumentException {
         mustFit(isBetween(ticks, 1, 50));
-        return (int) run(new Call(Call.TICK, ticks, 0, 0));
+        Call call = new Call(Call.TICK, ticks, 0, 0);
+        return (int) done(call, hall.perform(call));
     }
 
     public long sell(int instrument, int member, int price)
@@ -253,12 +268,14 @@ public final class NettingHall {
         mustExist(isInstrument(instrument) && isMember(member));
         mustFit(isPrice(price));
         mustBePossible(hall.clearing.house.positionIn(instrument) != 0 && !hall.clearing.hasFailed(member));
-        return run(new Call(Call.SELL, instrument, member, price));
+        Call call = new Call(Call.SELL, instrument, member, price);
+        return done(call, hall.perform(call));
     }
 
     public long settle() throws IllegalStateException {
         mustBePossible(hall.clearing.toSettle != null);
-        return run(new Call(Call.SETTLE, 0, 0, 0));
+        Call call = new Call(Call.SETTLE, 0, 0, 0);
+        return done(call, hall.perform(call));
     }
 
     // ---- feeds and replay
@@ -311,14 +328,13 @@ public final class NettingHall {
 
     // ---- helpers of the face
 
-    /** Does what a call asks, keeps it for the replay and tells the feed what is shown then. */
-    private long run(Call call) {
-        long answer = hall.perform(call);
-        if (call.what == Call.ORDER && answer == NONE) {
-            return answer;
+    /** Behind a call that was done: keeps it for the replay, tells the feed what is shown, and gives its answer on. */
+    private long done(Call call, long answer) {
+        boolean refused = call.what == Call.ORDER && answer == NONE;
+        if (!refused) {
+            keep(call);
+            feed.tell(hall.books);
         }
-        keep(call);
-        feed.tell(hall.books);
         return answer;
     }
 
@@ -474,7 +490,7 @@ public final class NettingHall {
         }
 
         void showAnew() {
-            part = size == 0 ? left : Math.min(size, left);
+            part = size == 0 || size > left ? left : size;
         }
 
         void goAway() {
@@ -799,9 +815,11 @@ public final class NettingHall {
             return instrument < 0 || instrument >= positions.length ? 0 : positions[instrument];
         }
 
-        void hold(int instrument, long quantity) {
+        /** Takes a quantity of an instrument into its position, and an amount into its cash; either may be below 0. */
+        void take(int instrument, long quantity, long amount) {
             if (instrument >= 0 && instrument < positions.length) {
                 positions[instrument] += quantity;
+                cash += amount;
             }
         }
 
@@ -828,7 +846,7 @@ public final class NettingHall {
             return what == 1 ? deposit : share;
         }
 
-        /** Thousandths of a tenth that it pays as a fee. */
+        /** Its fee in ten-thousandths, by what it has traded so far. */
         int rate() {
             if (traded >= 5000) {
                 return 5;
@@ -1007,26 +1025,12 @@ public final class NettingHall {
             long pay = value * 2 / 10000;
             trade.buyerFee = buyerCame ? fee : -pay;
             trade.sellerFee = buyerCame ? -pay : fee;
-            book(trade, 1, 1);
+            buys.take(paper.number, quantity, -value - trade.buyerFee);
+            sells.take(paper.number, -quantity, value - trade.sellerFee);
+            house.cash += trade.buyerFee + trade.sellerFee;
             buys.traded += quantity;
             sells.traded += quantity;
             paper.tradedAt(price);
-        }
-
-        /** Moves what a trade moves, forth (1) or back (-1). */
-        private void book(Trade trade, int way, int splitBy) {
-            Member buys = memberAt(trade.buyer);
-            Member sells = memberAt(trade.seller);
-            if (buys == null || sells == null) {
-                return;
-            }
-            long quantity = (long) way * trade.quantity * splitBy;
-            long value = (long) way * trade.price * trade.quantity;
-            buys.hold(trade.instrument, quantity);
-            sells.hold(trade.instrument, -quantity);
-            buys.cash -= value + way * trade.buyerFee;
-            sells.cash += value - way * trade.sellerFee;
-            house.cash += way * (trade.buyerFee + trade.sellerFee);
         }
 
         boolean canBeBroken(Trade trade) {
@@ -1040,10 +1044,17 @@ public final class NettingHall {
                 return;
             }
             Paper paper = paperAt(trade.instrument);
-            if (paper != null) {
-                trade.broken = true;
-                book(trade, -1, paper.factor / trade.factor);
+            Member buys = memberAt(trade.buyer);
+            Member sells = memberAt(trade.seller);
+            if (paper == null || buys == null || sells == null) {
+                return;
             }
+            long quantity = (long) trade.quantity * (paper.factor / trade.factor);
+            long value = (long) trade.price * trade.quantity;
+            buys.take(paper.number, -quantity, value + trade.buyerFee);
+            sells.take(paper.number, quantity, -value + trade.sellerFee);
+            house.cash -= trade.buyerFee + trade.sellerFee;
+            trade.broken = true;
         }
 
         boolean hasTraded(int member, int instrument, int side, int since) {
@@ -1060,9 +1071,9 @@ public final class NettingHall {
         void divide(Paper paper, int by) {
             paper.divideBy(by);
             for (Member member : members) {
-                member.hold(paper.number, member.positionIn(paper.number) * (by - 1));
+                member.take(paper.number, member.positionIn(paper.number) * (by - 1), 0);
             }
-            house.hold(paper.number, house.positionIn(paper.number) * (by - 1));
+            house.take(paper.number, house.positionIn(paper.number) * (by - 1), 0);
         }
 
         long payDividend(int instrument, int amount) {
@@ -1134,10 +1145,8 @@ public final class NettingHall {
             for (Paper paper : papers) {
                 long position = member.positionIn(paper.number);
                 long value = position * paper.last;
-                member.hold(paper.number, -position);
-                house.hold(paper.number, position);
-                member.cash += value;
-                house.cash -= value;
+                member.take(paper.number, -position, value);
+                house.take(paper.number, position, -value);
                 paper.cost += value;
             }
             toSettle = member;
@@ -1155,10 +1164,8 @@ public final class NettingHall {
             }
             long position = house.positionIn(instrument);
             long value = position * price;
-            house.hold(instrument, -position);
-            member.hold(instrument, position);
-            house.cash += value;
-            member.cash -= value;
+            house.take(instrument, -position, value);
+            member.take(instrument, position, -value);
             losses += paper.cost - value;
             paper.cost = 0;
             if (house.holdsNothing()) {
@@ -1381,7 +1388,10 @@ public final class NettingHall {
                 } else if (paper.isTooFar(other.price)) {
                     paper.phase = AUCTION;
                 } else {
-                    tradeWith(order, other, paper);
+                    int quantity = Math.min(order.left, other.part);
+                    tradeWith(order, other, paper, quantity);
+                    order.left -= quantity;
+                    books.useShown(other, quantity);
                 }
             }
             if (order.left > 0 && stays) {
@@ -1391,16 +1401,13 @@ public final class NettingHall {
             }
         }
 
-        private void tradeWith(Order order, Order other, Paper paper) {
-            int quantity = Math.min(order.left, other.part);
+        private void tradeWith(Order order, Order other, Paper paper, int quantity) {
             boolean buys = order.side == BUYS;
             int buyer = buys ? order.member : other.member;
             int seller = buys ? other.member : order.member;
             clearing.makeTrade(paper, other.price, quantity, buyer, seller, buys);
             takeAway(order.tied);
             takeAway(other.tied);
-            order.left -= quantity;
-            books.useShown(other, quantity);
         }
 
         private static void takeAway(Order order) {
