@@ -750,11 +750,6 @@ public final class NettingHall {
             }
         }
 
-        void openedAt(int price) {
-            last = price;
-            reference = price;
-        }
-
         int changeBand(int percent) {
             int before = band;
             band = percent;
@@ -1510,7 +1505,7 @@ public final class NettingHall {
                 }
             }
             if (traded > 0) {
-                paper.openedAt(price);
+                paper.reference = price;
             }
             paper.phase = CONTINUOUS;
             return traded;
@@ -1548,10 +1543,6 @@ public final class NettingHall {
         private final int[] keys = new int[MOST];
         private final int[] quantities = new int[MOST];
         int count;
-
-        void clear() {
-            count = 0;
-        }
 
         int quantityAt(int key) {
             int place = placeOf(key);

@@ -46,6 +46,7 @@ public class PromiseTests {
         sales();
         settling();
         fundInOrder();
+        fundByShares();
         readers();
         lostAndCopied();
         replay();
@@ -337,6 +338,13 @@ public class PromiseTests {
         is("nothing is opened", y.open(0), 0);
         is("it trades again", y.instrument(0), 1000);
         is("trades", y.trades(), 200);
+        NettingHall z = new NettingHall();
+        z.order(0, 0, SELL, 100, 250, 1, DAY);
+        z.order(1, 0, BUY, 100, 198, 0, DAY);
+        z.order(0, 1, SELL, 50, 5, 0, DAY);
+        z.order(2, 2, BUY, 50, 5, 1, DAY);
+        is("at 198 a spread has room for two", z.spread(3, 1, 2, 5, 0), 1);
+        is("and no more", z.trades(), 200);
         NettingHall failed = withFailed();
         notNow("order of a failed one", () -> failed.order(1, 0, BUY, 60, 1, 0, DAY));
         is("order of another one", failed.order(2, 0, BUY, 60, 1, 0, DAY), 4);
@@ -1208,6 +1216,42 @@ public class PromiseTests {
         is("50 were lost, and taken from its cash", y.money(1, 0), 198 - 50);
         is("its share stays", y.money(1, 2), 10);
         is("the house gets them", y.money(-1, 0), cash + 550 + 50);
+    }
+
+    private static void fundByShares() {
+        promise = "30 settle, by shares";
+        int[][] shares = {{1, 1, 1000}, {0, 1, 0}, {0, 0, 0}, {400, 400, 2}, {1, 2, 1000}, {3, 300, 1}};
+        int[] needed = {501, 5, 5, 802, 502, 150};
+        int[][] left = {{0, 1, 500}, {0, 0, 0}, {0, 0, 0}, {0, 0, 0}, {0, 1, 500}, {1, 152, 1}};
+        int[] uncovered = {0, 4, 5, 0, 0, 0};
+        int[] members = {0, 2, 4};
+        for (int i = 0; i < shares.length; i++) {
+            NettingHall y = missing(needed[i], shares[i]);
+            is(i + ": uncovered", y.money(-1, 1), uncovered[i]);
+            for (int m = 0; m < 3; m++) {
+                is(i + ": share of " + members[m], y.money(members[m], 2), left[i][m]);
+            }
+        }
+    }
+
+    /** A hall in which member 1 has failed and is settled: an amount was missing, and there were shares of 0, 2 and 4. */
+    private static NettingHall missing(int amount, int[] shares) {
+        NettingHall x = new NettingHall();
+        int[] members = {0, 2, 4};
+        for (int m = 0; m < 3; m++) {
+            if (shares[m] > 0) {
+                x.fund(members[m], shares[m]);
+            }
+        }
+        x.order(0, 0, SELL, amount + 1, 1, 0, DAY);
+        x.order(1, 0, BUY, amount + 1, 1, 0, DAY);
+        x.order(3, 0, SELL, 1, 1, 0, DAY);
+        x.order(2, 0, BUY, 1, 1, 0, DAY);
+        x.deposit(0, 10);
+        x.deposit(2, 10);
+        x.tick(4);
+        x.sell(0, 3, 1);
+        return x;
     }
 
     private static void readers() {
