@@ -1342,7 +1342,7 @@ public final class NettingHall {
             int kind = call.g;
             if (clearing.isContinuous(instrument)) {
                 int could = books.sumGoodFor(instrument, 1 - side, price, member);
-                if (kind == ALL && could < quantity || kind == REST && could > 0) {
+                if ((kind == ALL && could < quantity) || (kind == REST && could > 0)) {
                     return NONE;
                 }
             }
