@@ -1,20 +1,5 @@
 /** For each promise of the document: ordinary inputs, the edges that it names, and wrong inputs. */
-public class PromiseTests {
-    private static final int BUY = 0, SELL = 1;
-    private static final int DAY = NettingHall.DAY, NOW = NettingHall.NOW, ALL = NettingHall.ALL, REST = NettingHall.REST;
-    private static final int[] FAR = {Integer.MIN_VALUE, Integer.MAX_VALUE};
-
-    private static int faults;
-    private static String promise = "";
-
-    private interface Asked {
-        long get();
-    }
-
-    private interface Done {
-        void run();
-    }
-
+public class PromiseTests extends Checks {
     public static void main(String[] args) {
         constants();
         newObject();
@@ -51,56 +36,11 @@ public class PromiseTests {
         lostAndCopied();
         replay();
         nothingChangesByThrow();
-        System.out.println(faults == 0 ? "all promises hold" : faults + " answers are wrong");
-        if (faults > 0) {
-            System.exit(1);
-        }
-    }
-
-    private static void is(String call, long got, long want) {
-        if (got != want) {
-            faults++;
-            System.out.println(promise + ": " + call + " is " + got + ", due is " + want);
-        }
-    }
-
-    private static String nameOf(Done done) {
-        try {
-            done.run();
-            return "nothing";
-        } catch (RuntimeException e) {
-            return e.getClass().getSimpleName();
-        }
-    }
-
-    private static void throwsIt(String call, String want, Done done) {
-        String got = nameOf(done);
-        if (!got.equals(want)) {
-            faults++;
-            System.out.println(promise + ": " + call + " throws " + got + ", due is " + want);
-        }
-    }
-
-    private static void noSuch(String call, Done done) {
-        throwsIt(call, "IndexOutOfBoundsException", done);
-    }
-
-    private static void outOfRange(String call, Done done) {
-        throwsIt(call, "IllegalArgumentException", done);
-    }
-
-    private static void notNow(String call, Done done) {
-        throwsIt(call, "IllegalStateException", done);
-    }
-
-    /** Lets two members trade once, the first one buying, in an instrument without other orders at that price. */
-    private static void trade(NettingHall x, int buyer, int seller, int paper, int price, int quantity) {
-        x.order(seller, paper, SELL, price, quantity, 0, DAY);
-        x.order(buyer, paper, BUY, price, quantity, 0, DAY);
+        end("the promises");
     }
 
     private static void constants() {
-        promise = "constants";
+        about("constants");
         is("NONE", NettingHall.NONE, -1);
         is("DAY", NettingHall.DAY, 0);
         is("NOW", NettingHall.NOW, 1);
@@ -111,7 +51,7 @@ public class PromiseTests {
     }
 
     private static void newObject() {
-        promise = "1 new object";
+        about("1 new object");
         NettingHall x = new NettingHall();
         is("trades", x.trades(), 0);
         for (int i = 0; i < 3; i++) {
@@ -140,7 +80,7 @@ public class PromiseTests {
     }
 
     private static void deposits() {
-        promise = "2 deposit";
+        about("2 deposit");
         NettingHall x = new NettingHall();
         is("deposit(0, 1)", x.deposit(0, 1), 1);
         is("deposit(0, 1000000)", x.deposit(0, 1000000), 1000001);
@@ -160,7 +100,7 @@ public class PromiseTests {
     }
 
     private static void funds() {
-        promise = "3 fund";
+        about("3 fund");
         NettingHall x = new NettingHall();
         is("fund(0, 1)", x.fund(0, 1), 1);
         is("fund(0, 1000000)", x.fund(0, 1000000), 1000001);
@@ -179,20 +119,8 @@ public class PromiseTests {
         is("fund of the house then", failed.fund(-1, 1), 1);
     }
 
-    /** A hall in which member 1 has failed, with 20 of instrument 0 bought at 100 and worth 60 each at the house. */
-    private static NettingHall withFailed() {
-        NettingHall x = new NettingHall();
-        trade(x, 1, 0, 0, 100, 20);
-        trade(x, 3, 2, 0, 60, 5);
-        x.deposit(3, 1000);
-        x.deposit(2, 1000);
-        x.deposit(0, 1000);
-        x.tick(4);
-        return x;
-    }
-
     private static void ordersTrade() {
-        promise = "4 order";
+        about("4 order");
         NettingHall x = new NettingHall();
         is("the first number", x.order(0, 0, SELL, 101, 5, 0, DAY), 0);
         is("a better price", x.order(1, 0, SELL, 100, 5, 2, DAY), 1);
@@ -225,7 +153,7 @@ public class PromiseTests {
     }
 
     private static void ordersByKind() {
-        promise = "4 order by kinds";
+        about("4 order by kinds");
         NettingHall x = new NettingHall();
         x.order(0, 0, SELL, 100, 5, 1, DAY);
         x.order(1, 0, SELL, 101, 5, 0, DAY);
@@ -252,7 +180,7 @@ public class PromiseTests {
     }
 
     private static void ordersAndBands() {
-        promise = "4 order and band";
+        about("4 order and band");
         NettingHall x = new NettingHall();
         x.band(0, 3);
         trade(x, 0, 1, 0, 199, 1);
@@ -289,7 +217,7 @@ public class PromiseTests {
     }
 
     private static void ordersAtLimits() {
-        promise = "4 order at limits";
+        about("4 order at limits");
         NettingHall x = new NettingHall();
         for (int member : new int[] {-1, 5, FAR[0], FAR[1]}) {
             noSuch("member", () -> x.order(member, 0, 2, 0, 0, -1, 9));
@@ -351,7 +279,7 @@ public class PromiseTests {
     }
 
     private static void stops() {
-        promise = "5 stop";
+        about("5 stop");
         NettingHall x = new NettingHall();
         is("buys at 104 or more", x.stop(0, 0, BUY, 110, 5, 104), 0);
         is("sells at 96 or less", x.stop(1, 0, SELL, 90, 5, 96), 1);
@@ -416,7 +344,7 @@ public class PromiseTests {
     }
 
     private static void ties() {
-        promise = "6 tie";
+        about("6 tie");
         NettingHall x = new NettingHall();
         x.order(0, 0, SELL, 110, 5, 0, DAY);
         x.stop(0, 0, SELL, 80, 5, 90);
@@ -467,7 +395,7 @@ public class PromiseTests {
     }
 
     private static void cancels() {
-        promise = "7 cancel";
+        about("7 cancel");
         NettingHall x = new NettingHall();
         x.order(0, 0, SELL, 100, 9, 2, DAY);
         x.stop(0, 0, SELL, 100, 7, 2);
@@ -488,7 +416,7 @@ public class PromiseTests {
     }
 
     private static void suspicions() {
-        promise = "7 cancel, watched";
+        about("7 cancel, watched");
         NettingHall x = new NettingHall();
         x.order(0, 0, BUY, 90, 9, 0, DAY);
         x.order(0, 0, BUY, 91, 9, 0, DAY);
@@ -525,7 +453,7 @@ public class PromiseTests {
     }
 
     private static void spreads() {
-        promise = "8 spread";
+        about("8 spread");
         NettingHall x = new NettingHall();
         x.order(0, 1, SELL, 50, 9, 4, DAY);
         x.order(1, 2, BUY, 44, 5, 0, DAY);
@@ -574,7 +502,7 @@ public class PromiseTests {
     }
 
     private static void spreadsAtEdges() {
-        promise = "8 spread at edges";
+        about("8 spread at edges");
         NettingHall x = new NettingHall();
         x.order(0, 0, SELL, 50, 5, 0, DAY);
         x.order(0, 1, BUY, 40, 5, 0, DAY);
@@ -605,7 +533,7 @@ public class PromiseTests {
     }
 
     private static void standingBestShown() {
-        promise = "9 standing, 10 best, 11 shown";
+        about("9 standing, 10 best, 11 shown");
         NettingHall x = new NettingHall();
         x.order(0, 0, BUY, 10, 9, 4, DAY);
         x.order(1, 0, BUY, 10, 5, 0, DAY);
@@ -643,7 +571,7 @@ public class PromiseTests {
     }
 
     private static void bandsAndHalts() {
-        promise = "12 band, 13 halt";
+        about("12 band, 13 halt");
         NettingHall x = new NettingHall();
         is("band(0, 50)", x.band(0, 50), 0);
         is("band(0, 0)", x.band(0, 0), 50);
@@ -664,7 +592,7 @@ public class PromiseTests {
     }
 
     private static void indications() {
-        promise = "14 indicated";
+        about("14 indicated");
         NettingHall x = new NettingHall();
         is("nothing", x.indicated(0), 0);
         x.halt(0);
@@ -709,7 +637,7 @@ public class PromiseTests {
     }
 
     private static void openings() {
-        promise = "15 open";
+        about("15 open");
         NettingHall x = new NettingHall();
         notNow("not in AUCTION", () -> x.open(0));
         x.halt(0);
@@ -779,7 +707,7 @@ public class PromiseTests {
     }
 
     private static void splits() {
-        promise = "16 split";
+        about("16 split");
         NettingHall x = new NettingHall();
         trade(x, 0, 1, 0, 101, 7);
         x.order(0, 0, BUY, 9, 10, 4, DAY);
@@ -837,7 +765,7 @@ public class PromiseTests {
     }
 
     private static void dividends() {
-        promise = "17 dividend";
+        about("17 dividend");
         NettingHall x = new NettingHall();
         is("nobody has some", x.dividend(0, 1000), 0);
         trade(x, 0, 1, 0, 10, 7);
@@ -857,7 +785,7 @@ public class PromiseTests {
     }
 
     private static void instruments() {
-        promise = "18 instrument";
+        about("18 instrument");
         NettingHall x = new NettingHall();
         trade(x, 0, 1, 2, 9999, 1);
         is("last price", x.instrument(2), 99990);
@@ -869,7 +797,7 @@ public class PromiseTests {
     }
 
     private static void tradesAndFees() {
-        promise = "19 trades, 20 trade, fees";
+        about("19 trades, 20 trade, fees");
         NettingHall x = new NettingHall();
         trade(x, 3, 4, 1, 77, 6);
         is("trades", x.trades(), 1);
@@ -919,7 +847,7 @@ public class PromiseTests {
     }
 
     private static void brokenTrades() {
-        promise = "21 breakTrade";
+        about("21 breakTrade");
         NettingHall x = new NettingHall();
         x.deposit(0, 1000);
         x.deposit(1, 1000);
@@ -961,7 +889,7 @@ public class PromiseTests {
     }
 
     private static void positionsAndMoney() {
-        promise = "22 position, 23 money";
+        about("22 position, 23 money");
         NettingHall x = withFailed();
         is("the house", x.position(-1, 0), 20);
         is("who failed", x.position(1, 0), 0);
@@ -984,7 +912,7 @@ public class PromiseTests {
     }
 
     private static void scenariosAndMargins() {
-        promise = "24 scenario, 25 margin, 26 worth";
+        about("24 scenario, 25 margin, 26 worth");
         NettingHall x = new NettingHall();
         trade(x, 0, 1, 0, 33, 1);
         trade(x, 1, 0, 1, 57, 1);
@@ -1023,7 +951,7 @@ public class PromiseTests {
     }
 
     private static void membersAndTicks() {
-        promise = "27 member, 28 tick";
+        about("27 member, 28 tick");
         NettingHall x = new NettingHall();
         is("nothing", x.tick(50), 0);
         trade(x, 1, 0, 0, 100, 20);
@@ -1054,7 +982,7 @@ public class PromiseTests {
     }
 
     private static void failing() {
-        promise = "28 tick, failing";
+        about("28 tick, failing");
         NettingHall x = new NettingHall();
         trade(x, 1, 0, 0, 100, 20);
         trade(x, 2, 0, 0, 100, 10);
@@ -1105,7 +1033,7 @@ public class PromiseTests {
     }
 
     private static void sales() {
-        promise = "29 sell";
+        about("29 sell");
         NettingHall x = withFailed();
         for (int none : new int[] {-1, 5, FAR[0], FAR[1]}) {
             noSuch("instrument", () -> x.sell(none == 5 ? 3 : none, 0, 0));
@@ -1140,7 +1068,7 @@ public class PromiseTests {
     }
 
     private static void settling() {
-        promise = "30 settle";
+        about("30 settle");
         NettingHall x = new NettingHall();
         notNow("nobody", () -> x.settle());
         NettingHall y = withFailed();
@@ -1168,7 +1096,7 @@ public class PromiseTests {
     }
 
     private static void fundInOrder() {
-        promise = "30 settle, in order";
+        about("30 settle, in order");
         NettingHall x = new NettingHall();
         trade(x, 1, 0, 0, 100, 20);
         x.deposit(0, 9000);
@@ -1219,7 +1147,7 @@ public class PromiseTests {
     }
 
     private static void fundByShares() {
-        promise = "30 settle, by shares";
+        about("30 settle, by shares");
         int[][] shares = {{1, 1, 1000}, {0, 1, 0}, {0, 0, 0}, {400, 400, 2}, {1, 2, 1000}, {3, 300, 1}};
         int[] needed = {501, 5, 5, 802, 502, 150};
         int[][] left = {{0, 1, 500}, {0, 0, 0}, {0, 0, 0}, {0, 0, 0}, {0, 1, 500}, {1, 152, 1}};
@@ -1255,7 +1183,7 @@ public class PromiseTests {
     }
 
     private static void readers() {
-        promise = "31 read";
+        about("31 read");
         NettingHall x = new NettingHall();
         is("none", x.read(0), -1);
         x.order(0, 2, SELL, 30, 5, 2, DAY);
@@ -1308,7 +1236,7 @@ public class PromiseTests {
     }
 
     private static void lostAndCopied() {
-        promise = "32 lose, 33 copy, 34 wrong";
+        about("32 lose, 33 copy, 34 wrong");
         NettingHall x = new NettingHall();
         notNow("none", () -> x.lose(0));
         x.order(0, 0, BUY, 10, 5, 0, DAY);
@@ -1350,7 +1278,7 @@ public class PromiseTests {
     }
 
     private static void replay() {
-        promise = "35 replays";
+        about("35 replays");
         NettingHall x = withFailed();
         is("all is the same", x.replays() ? 1 : 0, 1);
         x.fund(2, 9);
@@ -1385,7 +1313,7 @@ public class PromiseTests {
     }
 
     private static void nothingChangesByThrow() {
-        promise = "a call that throws changes nothing";
+        about("a call that throws changes nothing");
         NettingHall x = new NettingHall();
         x.order(0, 0, SELL, 100, 5, 0, DAY);
         x.halt(1);
