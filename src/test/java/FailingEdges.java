@@ -369,6 +369,12 @@ public class FailingEdges extends Checks {
         trade(x, 3, 4, 1, 50, 1);
         is("it does not wake", x.position(1, 1), 0);
         replaysAll(x);
+        NettingHall y = new NettingHall();
+        y.order(1, 1, BUY, 1, 1, 0, DAY);
+        loses(y, 1, 0, 10);
+        y.stop(1, 1, BUY, 1, 1, 1);
+        y.tick(4);
+        is("the first of all, and the last", y.standing(0) + y.standing(5), 0);
     }
 
     private static void itsPositionsGo() {
@@ -560,6 +566,14 @@ public class FailingEdges extends Checks {
         is("and is of no use for what is missing", y.money(1, CASH), -802);
         is("that is uncovered", y.money(HOUSE, UNCOVERED), 802);
         is("who bought the first time can", withFailed().sell(0, 0, 60), 20);
+        NettingHall z = new NettingHall();
+        trade(z, 0, 1, 0, 60, 1);
+        trade(z, 3, 4, 0, 70, 1);
+        deposits(z, 500, 4);
+        z.tick(4);
+        is("-1 is a position, too", z.sell(0, 2, 75), -1);
+        is("it is settled", z.member(1) * 100 + z.money(HOUSE, UNCOVERED), 100 * SETTLED + 15);
+        replaysAll(z);
     }
 
     private static void salesAreNoTrades() {

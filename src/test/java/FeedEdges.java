@@ -41,6 +41,7 @@ public class FeedEdges extends Checks {
         watchedOnceForEach();
         watchedByAnyTrade();
         replaysEachCall();
+        replaysAgainFromNothing();
         replaysBehindThrows();
         replaysChangeNothing();
         fiveHundredAndTwelveCalls();
@@ -898,6 +899,42 @@ public class FeedEdges extends Checks {
             is("behind call " + i, x.replays() ? 1 : 0, 1);
         }
         is("two have failed", x.tick(1), 2);
+    }
+
+    private static void replaysAgainFromNothing() {
+        about("from nothing, each time");
+        NettingHall x = new NettingHall();
+        x.order(0, 0, SELL, 100, 9, 4, DAY);
+        x.order(0, 0, SELL, 200, 9, 0, DAY);
+        x.order(1, 0, BUY, 100, 1, 0, DAY);
+        x.order(1, 0, BUY, 100, 1, 0, DAY);
+        x.order(0, 1, BUY, 5, 5, 0, DAY);
+        x.cancel(x.order(0, 0, BUY, 3, 3, 0, DAY));
+        x.tie(0, 1);
+        x.stop(1, 0, SELL, 90, 5, 50);
+        x.stop(2, 0, SELL, 90, 5, 50);
+        x.tick(1);
+        trade(x, 3, 4, 1, 50, 1);
+        trade(x, 3, 4, 1, 90, 1);
+        x.split(1, 2);
+        x.dividend(1, 7);
+        x.breakTrade(0);
+        x.scenario(50, 50, 50);
+        x.deposit(3, 5);
+        x.fund(4, 5);
+        x.tick(1);
+        is("tied ones stand", x.standing(0) + x.standing(1), 71 + 91);
+        is("one fails", x.tick(3), 1);
+        x.band(0, 1);
+        x.band(1, 1);
+        x.halt(0);
+        x.halt(1);
+        x.halt(2);
+        is("suspicious, and failed", x.member(0), 12);
+        is("called", x.member(4), 1);
+        for (int i = 0; i < 4; i++) {
+            replaysAll(x);
+        }
     }
 
     private static void replaysBehindThrows() {

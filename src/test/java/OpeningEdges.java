@@ -13,6 +13,7 @@ public class OpeningEdges extends Checks {
         untilSoMuchIsTraded();
         pairsOfOneMember();
         laterNumberGoes();
+        tiesInOpenings();
         showsAnewInItsPlace();
         referenceAndLastPrice();
         thenContinuous();
@@ -157,6 +158,17 @@ public class OpeningEdges extends Checks {
         is("what is far away is not as good", x.indicated(0), 90L * INDICATED + 5);
         x.cancel(1);
         is("nothing can be traded", x.indicated(0), 0);
+        NettingHall y = new NettingHall();
+        trade(y, 3, 4, 0, 95, 1);
+        y.halt(0);
+        buys(y, 0, 100, 5);
+        sells(y, 1, 90, 5);
+        y.order(2, 1, BUY, 95, 5, 0, DAY);
+        y.order(2, 2, SELL, 95, 5, 0, DAY);
+        y.stop(2, 0, SELL, 95, 5, 95);
+        y.cancel(y.order(2, 0, BUY, 95, 5, 0, DAY));
+        is("also if such a price is the reference", y.indicated(0), 90L * INDICATED + 5);
+        opensAt(y, 90, 5);
     }
 
     private static void whatIsCounted() {
@@ -297,6 +309,51 @@ public class OpeningEdges extends Checks {
         is("nothing is opened", y.open(0), 0);
         is("by its number it is the earlier one", y.standing(0), 51);
         is("the other one went", y.standing(3), 0);
+    }
+
+    private static void tiesInOpenings() {
+        about("when one of two tied orders trades something, the other one goes at once, also in an opening");
+        NettingHall x = auction();
+        buys(x, 0, 105, 3);
+        buys(x, 0, 104, 3);
+        sells(x, 1, 100, 5);
+        x.tie(0, 1);
+        is("indicated", x.indicated(0), 100L * INDICATED + 5);
+        is("the tied one that buys trades no more", x.open(0), 3);
+        is("it is gone", x.standing(1), 0);
+        is("what sells is left", x.standing(2), 21);
+        NettingHall y = auction();
+        sells(y, 0, 95, 3);
+        sells(y, 0, 96, 3);
+        buys(y, 1, 100, 5);
+        y.tie(0, 1);
+        is("the tied one that sells trades no more", y.open(0), 3);
+        is("it is gone", y.standing(1), 0);
+        is("what buys is left", y.standing(2), 21);
+        NettingHall z = auction();
+        sells(z, 0, 95, 3);
+        z.stop(0, 1, BUY, 5, 5, 5);
+        buys(z, 1, 100, 5);
+        z.order(1, 2, SELL, 7, 5, 2, DAY);
+        sells(z, 3, 101, 1);
+        buys(z, 3, 90, 1);
+        z.tie(0, 1);
+        z.tie(3, 2);
+        z.tie(4, 5);
+        is("of both sides", z.open(0), 3);
+        is("one that waits", z.standing(1), 0);
+        is("one of another instrument", z.standing(3), 0);
+        is("not of those that did not trade", z.standing(4) + z.standing(5), 22);
+        about("one that goes otherwise leaves the other one untied");
+        NettingHall w = auction();
+        buys(w, 0, 100, 3);
+        sells(w, 0, 100, 3);
+        buys(w, 0, 90, 3);
+        w.tie(1, 2);
+        is("a pair of one member", w.open(0) * 100 + w.standing(1), 0);
+        is("what was tied stays", w.standing(2), 31);
+        w.tie(0, 2);
+        is("and can be tied", w.standing(0), 31);
     }
 
     private static void showsAnewInItsPlace() {
