@@ -32,7 +32,8 @@ public class ArgumentEdges extends Checks {
     private static final int LAST_ORDER = 13, LAST_TRADE = 4;
     private static final Maker FAILED = ArgumentEdges::failed, FULL = ArgumentEdges::full, NEW = NettingHall::new;
     private static final Maker HALTED = ArgumentEdges::halted, ONE_HALTED = ArgumentEdges::oneHalted;
-    private static final Maker TIED = ArgumentEdges::tied, SPLIT = ArgumentEdges::splitOut, BROKEN = ArgumentEdges::broken;
+    private static final Maker TIED = ArgumentEdges::tied, SPLIT = ArgumentEdges::splitOut;
+    private static final Maker BROKEN = ArgumentEdges::broken;
     private static final Range MEMBER = things(0, 4), MEMBER_OR_HOUSE = things(-1, 4), PAPER = things(0, 2);
     private static final Range ORDER = things(0, LAST_ORDER), TRADE = things(0, LAST_TRADE), READER = things(0, 1);
     private static final Range AMOUNT = numbers(1, 1000000), SIDE = numbers(0, 1), PRICE = numbers(1, 9999);

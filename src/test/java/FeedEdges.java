@@ -891,8 +891,8 @@ public class FeedEdges extends Checks {
             () -> x.order(0, 2, SELL, 20, 3, 0, DAY), () -> x.indicated(2), () -> x.open(2), () -> x.split(0, 3),
             () -> x.dividend(0, 2), () -> x.breakTrade(1), () -> x.scenario(-50, 0, 5), () -> x.tick(1),
             () -> x.tick(3), () -> x.order(0, 0, BUY, 20, 5, 0, DAY), () -> x.sell(0, 3, 28), () -> x.read(0),
-            () -> x.lose(0), () -> x.copy(1), () -> x.wrong(0), () -> trade(x, 2, 0, 1, 99, 9), () -> trade(x, 0, 3, 1, 9, 1),
-            () -> x.tick(5), () -> x.settle(), () -> x.order(1, 0, BUY, 1, 1, 0, DAY)};
+            () -> x.lose(0), () -> x.copy(1), () -> x.wrong(0), () -> trade(x, 2, 0, 1, 99, 9),
+            () -> trade(x, 0, 3, 1, 9, 1), () -> x.tick(5), () -> x.settle(), () -> x.order(1, 0, BUY, 1, 1, 0, DAY)};
         for (int i = 0; i < calls.length; i++) {
             String got = nameOf(calls[i]);
             is("call " + i + " is possible", got, i == calls.length - 1 ? NOT_NOW : NOTHING);
@@ -922,9 +922,7 @@ public class FeedEdges extends Checks {
         x.scenario(50, 50, 50);
         x.deposit(3, 5);
         x.fund(4, 5);
-        x.tick(1);
-        is("tied ones stand", x.standing(0) + x.standing(1), 71 + 91);
-        is("one fails", x.tick(3), 1);
+        is("one fails", x.tick(4), 1);
         x.band(0, 1);
         x.band(1, 1);
         x.halt(0);
@@ -935,6 +933,15 @@ public class FeedEdges extends Checks {
         for (int i = 0; i < 4; i++) {
             replaysAll(x);
         }
+        NettingHall y = new NettingHall();
+        y.order(0, 0, SELL, 100, 9, 4, DAY);
+        y.order(0, 0, SELL, 200, 9, 0, DAY);
+        y.order(1, 0, BUY, 100, 1, 0, DAY);
+        y.tie(0, 1);
+        for (int i = 0; i < 4; i++) {
+            replaysAll(y);
+        }
+        is("both stand, tied behind the trade", y.standing(0) + y.standing(1), 81 + 91);
     }
 
     private static void replaysBehindThrows() {
