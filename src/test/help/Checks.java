@@ -103,7 +103,8 @@ abstract class Checks {
         StringBuilder all = new StringBuilder();
         addOrders(all, x);
         for (int i = 0; i < 3; i++) {
-            all.append("\ninstrument ").append(i).append(": ").append(x.instrument(i)).append(' ').append(x.indicated(i));
+            all.append("\ninstrument ").append(i).append(": ").append(x.instrument(i));
+            all.append(' ').append(x.indicated(i));
             for (int side = 0; side < 2; side++) {
                 all.append(' ').append(x.best(i, side));
             }

@@ -219,8 +219,11 @@ public class ModelRuns {
 
         int someOrder() {
             int count = model.orders.size();
-            return odd(count == 0 ? 0 : dice.nextInt(10) == 0 ? dice.nextInt(count) : Math.max(0, count - 1 - dice.nextInt(12)),
-                    0, count - 1);
+            int number = 0;
+            if (count > 0) {
+                number = dice.nextInt(10) == 0 ? dice.nextInt(count) : Math.max(0, count - 1 - dice.nextInt(12));
+            }
+            return odd(number, 0, count - 1);
         }
 
         int someKind() {

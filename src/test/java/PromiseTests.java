@@ -1162,7 +1162,7 @@ public class PromiseTests extends Checks {
         }
     }
 
-    /** A hall in which member 1 has failed and is settled: an amount was missing, and there were shares of 0, 2 and 4. */
+    /** A hall in which member 1 has failed and is settled: an amount was missing; 0, 2 and 4 had shares. */
     private static NettingHall missing(int amount, int[] shares) {
         NettingHall x = new NettingHall();
         int[] members = {0, 2, 4};
